@@ -522,6 +522,10 @@ public final class PromiseTest {
         finds("four of 4", SIZE, () -> x.four(2, 5, 5, 5, 5));
         x.tear(5);
         finds("four missing a", NOTHING, () -> x.four(2, 5, 0, 2, 2));
+        finds("four missing b", NOTHING, () -> x.four(2, 0, 5, 2, 2));
+        finds("four missing c", NOTHING, () -> x.four(2, 0, 2, 5, 2));
+        finds("four not as many b", SIZE, () -> x.four(2, 2, 0, 2, 2));
+        finds("four not as many c", SIZE, () -> x.four(2, 2, 2, 0, 2));
         finds("four missing d", NOTHING, () -> x.four(2, 0, 2, 2, 5));
         bad("four(10)", () -> x.four(10, 0, 0, 0, 0));
         bad("four(-1)", () -> x.four(-1, 0, 0, 0, 0));
@@ -732,6 +736,18 @@ public final class PromiseTest {
         finds("mayBeLike other missing", NOTHING, () -> x.mayBeLike(0, 9));
         bad("mayBeLike(10)", () -> x.mayBeLike(10, 0));
         bad("mayBeLike(.., -1)", () -> x.mayBeLike(0, -1));
+        differInOneProfile("rows by 2",
+                "+++++++ +---+-+ ++++++- ++-+++- +++++-+ +----+- +--+-+-",
+                "+++++++ +--+--- +++-+-+ ++----+ +++--++ ++---+- +++--++");
+        differInOneProfile("rows by 4",
+                "+++++++ +--+--+ ++++--+ +++-+-- +++--++ +-----+ ++----+",
+                "+++++++ +-++-++ ++---+- +++-+-- +++-++- +++++-+ ++-+++-");
+        differInOneProfile("columns by 2",
+                "+++++++ ++----+ +-++-++ +-++--+ ++-+--+ +------ ++++-++",
+                "+++++++ ++++-++ +----+- +++++-+ ++--+-+ +-+-++- +++-+-+");
+        differInOneProfile("columns by 4",
+                "+++++++ +--++++ +----+- ++++-++ ++-+--+ +++---+ ++++-+-",
+                "+++++++ +-+-+-- +++-++- ++-+--+ +-+--+- +-+--++ ++--++-");
 
         begin(27);
         layTable(0, "++++ ++++ ++++ +++-");
@@ -743,6 +759,22 @@ public final class PromiseTest {
         due("like: not", 0, x.like(0, 2));
         layTable(3, "++++ ++++ +++- +++-");
         due("like: rows for columns are not asked for", 0, x.like(2, 3));
+        layTable(2, "++++ +-+- +--+ ++++");
+        layTable(3, "++++ +-+- ++-+ +-++");
+        due("like: not, by columns that all differ", 0, x.like(2, 3));
+        layTable(2, "++++ +-++ ++++ ++++");
+        layTable(3, "++++ +--+ +-++ ++++");
+        due("like: not, by one sign", 0, x.like(2, 3));
+        layTable(2, "++-+ -+++ +--+ ++++");
+        layTable(3, "++++ ++-+ +-+- -+++");
+        due("like: not in any order", 0, x.like(2, 3));
+        layTable(3, "++-+ -+++ +--+ ++++");
+        x.swap(3, false, 0, 2);
+        x.swap(3, false, 1, 3);
+        x.swap(3, true, 0, 1);
+        x.swap(3, true, 1, 3);
+        x.turn(3, 0b1011, 0b0110);
+        due("like in another order", 1, x.like(2, 3));
         layTable(4, "-");
         layTable(5, "+");
         due("like of 1", 1, x.like(4, 5));
@@ -765,6 +797,13 @@ public final class PromiseTest {
         bad("like(.., -1)", () -> x.like(0, -1));
     }
 
+    private static void differInOneProfile(String which, String one, String other) {
+        layTable(7, one);
+        layTable(8, other);
+        due("mayBeLike: not, but for " + which, 0, x.mayBeLike(7, 8));
+        due("mayBeLike: not, the other way, but for " + which, 0, x.mayBeLike(8, 7));
+    }
+
     private static void excessesAndPeaks() {
         begin(28);
         layTable(0, "+- -+");
@@ -775,6 +814,9 @@ public final class PromiseTest {
         due("excess of a SQUARE asked", 0, x.asked());
         layTable(0, "00 00");
         due("excess of 0", 0, x.excess(0));
+        layTable(0, "+-+ --+ +0-");
+        due("excess of any", 6, x.excess(0));
+        due("excess of any asked", 3, x.asked());
         layTable(0, "-");
         due("excess of -1", 1, x.excess(0));
         due("excess of -1 asked", 0, x.asked());
@@ -1109,6 +1151,14 @@ public final class PromiseTest {
         due("own, though no two directions", 2, x.own(0, 1));
         layTable(0, "00 00");
         due("own of 0", 2, x.own(0, 0));
+        layTable(0, "+++ 0++ 00-");
+        due("own 1 of a corner", 2, x.own(0, 1));
+        due("own -1 of a corner", 1, x.own(0, -1));
+        layTable(0, "++0 ++0 00+");
+        due("own 2", 1, x.own(0, 2));
+        due("own -2", 0, x.own(0, -2));
+        due("own 1", 1, x.own(0, 1));
+        due("own -1", 0, x.own(0, -1));
         layTable(0, "0+ -0");
         for (int number = -12; number <= 12; number++) {
             due("own of a quarter turn", 0, x.own(0, number));
@@ -1244,5 +1294,12 @@ public final class PromiseTest {
         x.drop(0);
         x.tear(0);
         due("digest keeps nothing", new SignSquares().digest(), x.digest());
+        layTable(9, "0- -0");
+        int[] last = {-1, -1, -1, -1, -1, -1, -1, -1, -1, 4, 2, 0, -1, -1, 0, -1, -1, -1, -1, -1, -1};
+        h = 17;
+        for (int value : last) {
+            h = 31 * h + value;
+        }
+        due("digest of an EVEN one", h, x.digest());
     }
 }
