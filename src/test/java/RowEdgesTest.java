@@ -275,6 +275,7 @@ public final class RowEdgesTest extends Edges {
         takes("lay", 1, s -> s.lay(5, 0, 1));
         tableIs("the TABLE has its own NUMBERS", 0, 0, "-0 -0");
         rowIs("the ROW stays", 5, 1, 0);
+        putOfWhatWasLonger();
         takes("table of 12", 0, s -> s.table(9, 12));
         lay(2, many(12, -1));
         takes("put 12", 0, s -> s.put(9, 11, 2));
@@ -282,6 +283,17 @@ public final class RowEdgesTest extends Edges {
         takes("put 12 is row 11", 12, s -> s.common(9, 1 << 11 | 1));
         lay(2, many(13, 1));
         finds("put 13", SIZE, s -> s.put(9, 11, 2));
+    }
+
+    /** Places that a ROW has no more do not count, whatever was there. */
+    private static void putOfWhatWasLonger() {
+        for (int v : new int[] {-1, 0, 1, 7}) {
+            layTable(4, 1, "++ +-");
+            lay(4, v, v, v);
+            lay(4, 1, -1);
+            takes("put of a ROW that was longer", 1, s -> s.put(4, 1, 4));
+            tableIs("put of a ROW that was longer", 4, 1, "++ +-");
+        }
     }
 
     private static void setEdges() {

@@ -57,18 +57,47 @@ class Edges {
         x = new SignSquares();
     }
 
-    /** No ROWS, no TABLES, but all that is told is neither as at first nor what a call is apt to tell. */
+    /**
+     * No ROWS, no TABLES, but there have been, as great as can be, and all that is told is neither as
+     * at first nor what a call is apt to tell: what an object keeps for itself must not be seen.
+     */
     static void begin(int number) {
         beginNew(number);
+        taken.add(s -> s.row(5, 24));
+        taken.add(s -> s.lay(5, 0, 7777));
+        for (int many = 1; many < 24; many += Math.min(many, 24 - many)) {
+            int laid = many;
+            taken.add(s -> s.copy(5, 0, 5, laid, Math.min(laid, 24 - laid)));
+        }
+        for (int r = 0; r < 5; r++) {
+            int row = r;
+            taken.add(s -> s.row(row, 24));
+            taken.add(s -> s.copy(5, 0, row, 0, 24));
+            taken.add(s -> s.tear(row));
+        }
+        for (int t = 0; t < 10; t++) {
+            int table = t;
+            taken.add(s -> s.bordered(table, 11));
+        }
+        taken.add(s -> s.mayBeLike(0, 1));
+        taken.add(s -> s.profile(0, 4, 4));
+        taken.add(s -> s.own(0, 0));
+        taken.add(s -> s.pairs(8));
+        for (int t = 0; t < 10; t++) {
+            int table = t;
+            taken.add(s -> s.drop(table));
+        }
+        toldBeforehand();
+    }
+
+    private static void toldBeforehand() {
         taken.add(s -> s.table(9, 3));
         taken.add(s -> s.set(9, 0, 0, -1, false));
         taken.add(s -> s.weight(9));
         taken.add(s -> s.bordered(9, 7));
         taken.add(s -> s.worth(9));
         taken.add(s -> s.drop(9));
-        taken.add(s -> s.row(5, 1));
         taken.add(s -> s.lay(5, 0, 7777));
-        taken.add(s -> s.lay(5, 0, 1));
         taken.add(s -> s.row(5, 0));
         taken.add(s -> s.mean(5));
         taken.add(s -> s.tear(5));
@@ -125,11 +154,12 @@ class Edges {
         taken.add(call);
     }
 
-    /** Taken, and nothing that can be seen has changed. */
+    /** Taken, and nothing that can be seen has changed, so it answers the same again. */
     static void onlyAnswers(String what, long want, Call call) {
         SignSquares now = made();
         SignSquares before = made();
         due(what, want, call.on(now));
+        due(what + ", again", want, call.on(now));
         findingsAre(what, now, before, 0);
         likeBefore(what, now, before);
     }
