@@ -144,7 +144,8 @@ public final class PromiseTest {
         for (int i = 0; i < n; i++) {
             for (int j = 0; j < n; j++) {
                 x.at(t, i, j);
-                signs.append(x.asked() > 0 ? '+' : x.asked() < 0 ? '-' : '0');
+                int v = x.asked();
+                signs.append(v > 0 ? '+' : v < 0 ? '-' : '0');
             }
             signs.append(i < n - 1 ? " " : "");
         }
@@ -464,6 +465,9 @@ public final class PromiseTest {
         due("residues 11", 0, x.residues(1, 11));
         x.told(1, 2);
         due("as many squares as not", 55, x.asked());
+
+        begin(15);
+        layTable(0, "+- 0+");
         int[] primes = {3, 5, 7, 11};
         for (int p = -3; p <= 14; p++) {
             int number = p;
@@ -481,6 +485,9 @@ public final class PromiseTest {
         tableIs("bordered 7", 0,
                 "++++++++ -+++-+-- --+++-+- ---+++-+ -+--+++- --+--+++ -+-+--++ -++-+--+");
         due("bordered 11", 1, x.bordered(9, 11));
+
+        begin(16);
+        layTable(0, "+- 0+");
         for (int p = -3; p <= 14; p++) {
             int number = p;
             if (p != 3 && p != 7 && p != 11) {
@@ -507,6 +514,17 @@ public final class PromiseTest {
         layRow(3, -1, 1, 1);
         due("four of 3", 1, x.four(2, 2, 3, 3, 3));
         tableIs("four of 3", 2, fourByHand(new int[][] {{1, 1, 1}, {-1, 1, 1}, {-1, 1, 1}, {-1, 1, 1}}));
+        foursRefused();
+        foursOfNoRows();
+    }
+
+    private static void foursRefused() {
+        begin(17);
+        layTable(2, "+- 0+");
+        layRow(0, 1, 1);
+        layRow(1, 1, -1);
+        layRow(2, 1, 1, 1);
+        layRow(3, -1, 1, 1);
         refuses("four do not FIT", SignSquares.STATE, () -> x.four(2, 2, 2, 2, 2));
         refuses("four of 2 do not FIT", SignSquares.STATE, () -> x.four(5, 0, 0, 0, 1));
         layRow(4, 1, 1, -1);
@@ -516,16 +534,22 @@ public final class PromiseTest {
         layRow(4, 1, 0, 0);
         finds("four no SIGNS, backwards", UNLIKE, () -> x.four(2, 2, 4, 2, 2));
         finds("four not as many", SIZE, () -> x.four(2, 4, 2, 2, 0));
+        finds("four not as many b", SIZE, () -> x.four(2, 2, 0, 2, 2));
+        finds("four not as many c", SIZE, () -> x.four(2, 2, 2, 0, 2));
         x.row(5, 0);
         finds("four none", SIZE, () -> x.four(2, 5, 5, 5, 5));
         x.row(5, 4);
         finds("four of 4", SIZE, () -> x.four(2, 5, 5, 5, 5));
-        x.tear(5);
+    }
+
+    private static void foursOfNoRows() {
+        begin(17);
+        layTable(2, "+- 0+");
+        layRow(0, 1, 1);
+        layRow(2, 1, 1, 1);
         finds("four missing a", NOTHING, () -> x.four(2, 5, 0, 2, 2));
         finds("four missing b", NOTHING, () -> x.four(2, 0, 5, 2, 2));
         finds("four missing c", NOTHING, () -> x.four(2, 0, 2, 5, 2));
-        finds("four not as many b", SIZE, () -> x.four(2, 2, 0, 2, 2));
-        finds("four not as many c", SIZE, () -> x.four(2, 2, 2, 0, 2));
         finds("four missing d", NOTHING, () -> x.four(2, 0, 2, 2, 5));
         bad("four(10)", () -> x.four(10, 0, 0, 0, 0));
         bad("four(-1)", () -> x.four(-1, 0, 0, 0, 0));
@@ -736,6 +760,8 @@ public final class PromiseTest {
         finds("mayBeLike other missing", NOTHING, () -> x.mayBeLike(0, 9));
         bad("mayBeLike(10)", () -> x.mayBeLike(10, 0));
         bad("mayBeLike(.., -1)", () -> x.mayBeLike(0, -1));
+
+        begin(26);
         differInOneProfile("rows by 2",
                 "+++++++ +---+-+ ++++++- ++-+++- +++++-+ +----+- +--+-+-",
                 "+++++++ +--+--- +++-+-+ ++----+ +++--++ ++---+- +++--++");
