@@ -1321,10 +1321,17 @@ public final class SignSquares {
         boolean comesFrom(Table other) {
             int due = other.columnsTold(ORDER_AS_IT_IS, 0);
             for (int order = 0; order < 1 << 2 * n; order++) {
-                for (int turned = 0; turned < 1 << n && isOrder(order); turned++) {
-                    if (columnsTold(order, turned) == due) {
-                        return true;
-                    }
+                if (isOrder(order) && comesInOrder(order, due)) {
+                    return true;
+                }
+            }
+            return false;
+        }
+
+        private boolean comesInOrder(int order, int due) {
+            for (int turned = 0; turned < 1 << n; turned++) {
+                if (columnsTold(order, turned) == due) {
+                    return true;
                 }
             }
             return false;
@@ -1452,8 +1459,14 @@ public final class SignSquares {
                 coefficients[degree - k] = next;
                 takeProduct(next);
             }
-            // This far it is x with the TABLE taken from it.
-            for (int k = 0; k <= degree && degree % 2 == 1; k++) {
+            // This far it is that of x with the TABLE taken from it.
+            if (degree % 2 == 1) {
+                turnCoefficients();
+            }
+        }
+
+        private void turnCoefficients() {
+            for (int k = 0; k <= degree; k++) {
                 coefficients[k] = -coefficients[k];
             }
         }

@@ -9,6 +9,8 @@ import java.util.Arrays;
 import java.util.HashSet;
 import java.util.Set;
 import java.util.TreeSet;
+import java.util.regex.Matcher;
+import java.util.regex.Pattern;
 
 /** The public face, some rules of LANGUAGE.md that can be read off the file, and what calls make. */
 public final class RulesTest {
@@ -117,13 +119,25 @@ public final class RulesTest {
         hold("no method reference", !code.contains("::"));
         hold("no Exact", !code.contains("Exact"));
         hold("no static block", !code.matches("(?s).*\\bstatic\\s*\\{.*"));
-        hold("no System but arraycopy", !code.replace("System.arraycopy", "").contains("System"));
+        library(code);
         int lines = 0;
         for (String line : file.split("\n")) {
             lines = line.matches(" {4,8}\\S.*\\) \\{") ? 0 : lines + 1;
             hold("methods of sixty lines at most", lines <= 60 || line.isBlank());
             lines = line.matches(" {4,8}\\}") ? 0 : lines;
         }
+    }
+
+    /** Of the library that LANGUAGE.md lists, the class uses these alone. */
+    private static void library(String code) {
+        Set<String> used = new TreeSet<>();
+        Matcher use = Pattern.compile("\\b(?!SignSquares\\b)([A-Z][a-z]\\w*)\\s*\\.\\s*(\\w+)").matcher(code);
+        while (use.find()) {
+            used.add(use.group(1) + "." + use.group(2));
+        }
+        used.removeAll(Set.of("Integer.bitCount", "Math.abs", "Math.max", "System.arraycopy"));
+        hold("no library but what is listed: " + used, used.isEmpty());
+        hold("twelve classes at most", code.split("\\bclass\\b").length <= 13);
     }
 
     /** All calls of a run live in one room, so no call may make objects or arrays. */
